@@ -183,7 +183,7 @@ public final class RealText {
     /** A row of characters that grows at its end and is taken from at its start. */
     private static final class Row {
         /** Stands for a character that is not there; no text holds it. */
-        static final char NOTHING = 0;
+        private static final char NOTHING = 0;
 
         private final char[] letters;
         private int start;
@@ -252,7 +252,7 @@ public final class RealText {
         }
 
         long magnitudeMask() {
-            return infinity() | hiddenBit() - 1;
+            return infinity() | fractionMask();
         }
 
         long signMask() {
@@ -260,16 +260,20 @@ public final class RealText {
         }
 
         /** The bit that a normal number has before its fraction, and that its bits leave out. */
-        long hiddenBit() {
+        private long hiddenBit() {
             return 1L << fractionBits;
         }
 
-        int exponentOf(long magnitude) {
+        private long fractionMask() {
+            return hiddenBit() - 1;
+        }
+
+        private int exponentOf(long magnitude) {
             return (int) (magnitude >>> fractionBits);
         }
 
         long significandOf(long magnitude) {
-            long fraction = magnitude & hiddenBit() - 1;
+            long fraction = magnitude & fractionMask();
             return exponentOf(magnitude) == 0 ? fraction : fraction | hiddenBit();
         }
 
@@ -279,7 +283,7 @@ public final class RealText {
 
         /** Whether the number below is only half as far away as the number above. */
         boolean isNarrowBelow(long magnitude) {
-            return exponentOf(magnitude) > 1 && (magnitude & hiddenBit() - 1) == 0;
+            return exponentOf(magnitude) > 1 && (magnitude & fractionMask()) == 0;
         }
 
         /**
@@ -322,7 +326,7 @@ public final class RealText {
         }
     }
 
-    /** What a text says, if it is a literal: whole digits, how many are behind the point, exponent. */
+    /** What a text says, if it is a literal: its digits, where the point is, and the exponent. */
     private static final class Literal {
         static final int BITS_OF_HEX = 4;
         /** Far beyond what 1200 digits can make up for, and far from the end of an int. */
@@ -374,7 +378,7 @@ public final class RealText {
             return letter == one || letter == other;
         }
 
-        /** Behind the last digit of a run: a _ that no digit follows is left for the caller to find. */
+        /** Stops behind the last digit: a _ that no digit follows then fits no form. */
         private static int endOfDigits(Row source, int start, int base) {
             int end = start;
             for (int i = start; i < source.length(); i++) {
@@ -475,11 +479,15 @@ public final class RealText {
         }
 
         int bitLength() {
-            int bits = 0;
-            for (long top = limbAt(size - 1); top != 0; top >>>= 1) {
-                bits++;
+            if (size == 0) {
+                return 0;
             }
-            return size == 0 ? 0 : (size - 1) * LIMB_BITS + bits;
+            long top = limbAt(size - 1);
+            int topBits = 1;
+            while (topBits < LIMB_BITS && top >>> topBits != 0) {
+                topBits++;
+            }
+            return (size - 1) * LIMB_BITS + topBits;
         }
 
         /** Below 0, 0 or above 0 as this is less than, the same as or more than the other. */
@@ -725,7 +733,7 @@ public final class RealText {
             return digit;
         }
 
-        /** Whether the digits so far are read as the number; its even neighbour takes a middle. */
+        /** Whether the digits so far are read as the number; a middle is read as the even one. */
         private boolean isReadBelow() {
             int order = rest.compare(halfGap);
             return order < 0 || order == 0 && isEven;
