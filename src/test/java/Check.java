@@ -1,11 +1,11 @@
-import java.math.BigDecimal;
-
-/** What the tests share: comparing answers, talking to a RealText in Strings, exact values. */
+/** What the tests share: comparing answers, and talking to a RealText in Strings. */
 final class Check {
     /** A call whose answer or exception is wanted. */
     interface Call {
         long answer();
     }
+
+    private static final int BYTES_OF_WORD = 8;
 
     private static int wrong = 0;
 
@@ -52,20 +52,38 @@ final class Check {
     }
 
     static void put(RealText x, String letters) {
-        for (int i = 0; i < letters.length(); i += 8) {
-            x.text(word(letters.substring(i, Math.min(i + 8, letters.length()))));
+        for (int i = 0; i < letters.length(); i += BYTES_OF_WORD) {
+            x.text(word(letters.substring(i, Math.min(i + BYTES_OF_WORD, letters.length()))));
         }
     }
 
-    static String readOutcome(String letters, boolean single) {
+    static RealText withText(String letters) {
         RealText x = new RealText();
         put(x, letters);
+        return x;
+    }
+
+    static String readOutcome(String letters, boolean single) {
+        RealText x = withText(letters);
         return outcome(() -> x.read(single));
+    }
+
+    /** Both sizes, against exact arithmetic. */
+    static void readsExactly(String letters) {
+        readsExactly(letters, false);
+        readsExactly(letters, true);
+    }
+
+    static void readsExactly(String letters, boolean single) {
+        same("read(" + single + ") of " + letters, readOutcome(letters, single),
+                Exact.read(letters, single));
     }
 
     static String takeAll(RealText x) {
         StringBuilder all = new StringBuilder();
-        for (long w = x.take(); w != 0; w = x.take()) {
+        // Bounded, so that a broken take fails a test and does not keep it from ending.
+        for (int i = 0; i < 100; i++) {
+            long w = x.take();
             for (int shift = 56; shift >= 0; shift -= 8) {
                 char letter = (char) (w >>> shift & 0xFF);
                 if (letter != 0) {
@@ -84,39 +102,17 @@ final class Check {
         return all;
     }
 
-    static long infinity(boolean single) {
-        return single ? 0x7F800000L : 0x7FF0000000000000L;
+    static long bits(double number) {
+        return Double.doubleToRawLongBits(number);
     }
 
-    /** The exact value of bits without a sign; infinity counts as the number above the greatest. */
-    static BigDecimal exact(long bits, boolean single) {
-        if (bits == infinity(single)) {
-            return new BigDecimal(2).pow(single ? 128 : 1024);
+    static long bits(float number) {
+        return Float.floatToRawIntBits(number) & 0xFFFFFFFFL;
+    }
+
+    static void counts(String when, RealText x, int... due) {
+        for (int what = 0; what < due.length; what++) {
+            same("count(" + what + ") " + when, x.count(what), due[what]);
         }
-        return single ? new BigDecimal((double) Float.intBitsToFloat((int) bits))
-                : new BigDecimal(Double.longBitsToDouble(bits));
-    }
-
-    private static BigDecimal middle(long bits, boolean single) {
-        BigDecimal sum = exact(bits, single).add(exact(bits + 1, single));
-        return sum.divide(new BigDecimal(2));
-    }
-
-    /** The middle of a number and the one below it. */
-    static BigDecimal middleBelow(long bits, boolean single) {
-        return middle(bits - 1, single);
-    }
-
-    /** The middle of a number and the one above it. */
-    static BigDecimal middleAbove(long bits, boolean single) {
-        return middle(bits, single);
-    }
-
-    /** Whether a value is read as the number with these bits, neither 0 nor infinity. */
-    static boolean isReadAs(BigDecimal value, long bits, boolean single) {
-        int below = value.compareTo(middleBelow(bits, single));
-        int above = value.compareTo(middleAbove(bits, single));
-        boolean isEven = (bits & 1) == 0;
-        return below > 0 && above < 0 || isEven && (below == 0 || above == 0);
     }
 }

@@ -1,21 +1,36 @@
 /** Promise 2: characters come to the text, or nothing changes. */
 public final class TextTest {
+    private static final int TEXT_LIMIT = 1200;
+
     public static void main(String[] args) {
-        order();
+        theHighestByteComesFirst();
+        whatIsThereStaysBefore();
         zerosAreLeftOut();
+        zerosInEveryPlace();
         everyByteInEveryPlace();
-        limit();
-        firstOfTwoExceptions();
-        nothingChangesWhenItThrows();
+        aBadByteAmongGoodOnes();
+        theTextIsFull();
+        everyWayToTheLimit();
+        aFullTextIsReadWhole();
+        theFirstOfTwoExceptions();
+        nothingChangesAtABadByte();
+        nothingChangesBeyondTheLimit();
         Check.end();
     }
 
-    private static void order() {
+    private static void theHighestByteComesFirst() {
+        RealText x = new RealText();
+        Check.same("text", x.text(0x3132333435363738L), 8);
+        Check.answers("read", () -> x.read(false), Check.bits(12345678.0));
+    }
+
+    private static void whatIsThereStaysBefore() {
         RealText x = new RealText();
         Check.same("text", x.text(Check.word("12345678")), 8);
         Check.same("text", x.text(Check.word("9.5")), 11);
-        Check.answers("read", () -> x.read(false), Double.doubleToRawLongBits(123456789.5));
+        Check.answers("read", () -> x.read(false), Check.bits(123456789.5));
         Check.same("text behind read", x.text(Check.word("7")), 1);
+        Check.answers("read again", () -> x.read(false), Check.bits(7.0));
     }
 
     private static void zerosAreLeftOut() {
@@ -24,7 +39,30 @@ public final class TextTest {
         Check.same("zeros between", x.text(0x3100320000330000L), 3);
         Check.same("text(0) again", x.text(0), 3);
         Check.same("zeros behind", x.text(0x2E35000000000000L), 5);
-        Check.answers("read", () -> x.read(false), Double.doubleToRawLongBits(123.5));
+        Check.answers("read", () -> x.read(false), Check.bits(123.5));
+    }
+
+    /** Every choice of the eight bytes that are zeros. */
+    private static void zerosInEveryPlace() {
+        for (int choice = 0; choice < 256; choice++) {
+            long w = 0;
+            StringBuilder due = new StringBuilder();
+            for (int place = 7; place >= 0; place--) {
+                boolean isThere = (choice >> place & 1) != 0;
+                w = w << 8 | (isThere ? '1' + place : 0);
+                if (isThere) {
+                    due.append((char) ('1' + place));
+                }
+            }
+            RealText x = new RealText();
+            Check.same("text(" + w + ")", x.text(w), due.length());
+            Check.same("read of " + due, Check.outcome(() -> x.read(false)),
+                    Exact.read(due.toString(), false));
+        }
+    }
+
+    private static boolean isCharacter(long one) {
+        return one >= 32 && one <= 126;
     }
 
     private static void everyByteInEveryPlace() {
@@ -33,7 +71,7 @@ public final class TextTest {
                 RealText x = new RealText();
                 long w = one << shift;
                 String what = "text(" + w + ")";
-                if (one == 0 || one >= 32 && one <= 126) {
+                if (one == 0 || isCharacter(one)) {
                     Check.answers(what, () -> x.text(w), one == 0 ? 0 : 1);
                 } else {
                     Check.fails(what, () -> x.text(w), IllegalArgumentException.class);
@@ -43,51 +81,96 @@ public final class TextTest {
         }
     }
 
-    private static RealText filled(int words) {
-        RealText x = new RealText();
-        for (int i = 0; i < words; i++) {
-            x.text(Check.word("00000000"));
+    private static void aBadByteAmongGoodOnes() {
+        long ones = Check.word("11111111");
+        for (int shift = 0; shift < 64; shift += 8) {
+            for (long one = 1; one < 256; one++) {
+                RealText x = Check.withText("5");
+                long w = ones & ~(0xFFL << shift) | one << shift;
+                String what = "text(" + w + ")";
+                if (isCharacter(one)) {
+                    Check.answers(what, () -> x.text(w), 9);
+                } else {
+                    Check.fails(what, () -> x.text(w), IllegalArgumentException.class);
+                    Check.answers("read", () -> x.read(false), Check.bits(5.0));
+                }
+            }
         }
-        return x;
     }
 
-    private static void limit() {
-        RealText x = filled(149);
-        Check.answers("the last word", () -> x.text(Check.word("00000001")), 1200);
+    private static RealText filled(int characters) {
+        return Check.withText("0".repeat(characters));
+    }
+
+    private static void theTextIsFull() {
+        RealText x = filled(TEXT_LIMIT - 8);
+        Check.answers("the last word", () -> x.text(Check.word("00000001")), TEXT_LIMIT);
         Check.fails("1201", () -> x.text(Check.word("1")), IllegalStateException.class);
-        Check.answers("no more", () -> x.text(0), 1200);
-        Check.answers("read", () -> x.read(false), Double.doubleToRawLongBits(1));
+        Check.fails("1208", () -> x.text(Check.word("11111111")), IllegalStateException.class);
+        Check.answers("none more", () -> x.text(0), TEXT_LIMIT);
+        Check.answers("read", () -> x.read(false), Check.bits(1.0));
         Check.answers("empty again", () -> x.text(Check.word("00000001")), 8);
-
-        RealText y = filled(149);
-        y.text(Check.word("00005"));
-        Check.fails("1201 in part", () -> y.text(Check.word("0000")),
-                IllegalStateException.class);
-        Check.same("count(0)", y.count(0), 1197);
-        Check.answers("zeros do not count", () -> y.text(0x2E30003100000000L), 1200);
-        Check.answers("read", () -> y.read(false), Double.doubleToRawLongBits(5.01));
     }
 
-    private static void firstOfTwoExceptions() {
-        RealText x = filled(150);
+    /** So many characters less than the limit, and so many more. */
+    private static void everyWayToTheLimit() {
+        for (int free = 0; free <= 9; free++) {
+            for (int more = 0; more <= 8; more++) {
+                RealText x = filled(TEXT_LIMIT - free);
+                long w = Check.word("1".repeat(more));
+                String what = more + " more where " + free + " are free";
+                if (more <= free) {
+                    Check.answers(what, () -> x.text(w), TEXT_LIMIT - free + more);
+                } else {
+                    Check.fails(what, () -> x.text(w), IllegalStateException.class);
+                    Check.same("count(0)", x.count(0), TEXT_LIMIT - free);
+                }
+            }
+        }
+        RealText x = filled(TEXT_LIMIT - 2);
+        Check.answers("zeros do not count", () -> x.text(0x3100000032000000L), TEXT_LIMIT);
+        Check.answers("read", () -> x.read(false), Check.bits(12.0));
+    }
+
+    private static void aFullTextIsReadWhole() {
+        String text = "1." + "0".repeat(TEXT_LIMIT - 5) + "e30";
+        Check.same("read of 1200", Check.readOutcome(text, false),
+                Long.toString(Check.bits(1e30)));
+        Check.same("read of 1199", Check.readOutcome(text.substring(0, TEXT_LIMIT - 1), false),
+                Long.toString(Check.bits(1e3)));
+    }
+
+    private static void theFirstOfTwoExceptions() {
+        RealText x = filled(TEXT_LIMIT);
         Check.fails("both fit", () -> x.text(127), IllegalArgumentException.class);
         Check.fails("both fit", () -> x.text(-1), IllegalArgumentException.class);
+        Check.fails("both fit", () -> x.text(0x3100000000000001L), IllegalArgumentException.class);
         Check.fails("one fits", () -> x.text(126), IllegalStateException.class);
-        Check.same("count(0)", x.count(0), 1200);
+        Check.same("count(0)", x.count(0), TEXT_LIMIT);
     }
 
-    private static void nothingChangesWhenItThrows() {
-        RealText x = new RealText();
-        x.text(Check.word("1.5"));
-        x.write(Double.doubleToRawLongBits(2.5), false);
+    private static void nothingChangesAtABadByte() {
+        RealText x = Check.withText("1.5");
+        x.write(Check.bits(2.5), false);
         Check.fails("a bad last byte", () -> x.text(0x3131313131313109L),
                 IllegalArgumentException.class);
         Check.fails("a bad first byte", () -> x.text(0xFF31313131313131L),
                 IllegalArgumentException.class);
-        for (int what = 2; what <= 4; what++) {
-            Check.same("count(" + what + ")", x.count(what), 0);
-        }
-        Check.answers("read", () -> x.read(false), Double.doubleToRawLongBits(1.5));
+        Check.counts("behind bad bytes", x, 3, 3, 0, 0, 0);
+        Check.answers("read", () -> x.read(false), Check.bits(1.5));
+        Check.same("written", Check.takeAll(x), "2.5");
+    }
+
+    private static void nothingChangesBeyondTheLimit() {
+        RealText x = Check.withText("0".repeat(TEXT_LIMIT - 4) + "8");
+        x.write(Check.bits(2.5), false);
+        Check.fails("four where three are free", () -> x.text(Check.word("1111")),
+                IllegalStateException.class);
+        Check.counts("beyond the limit", x, TEXT_LIMIT - 3, 3, 0, 0, 0);
+        Check.answers("three", () -> x.text(Check.word(".25")), TEXT_LIMIT);
+        Check.fails("one more", () -> x.text(Check.word("5")), IllegalStateException.class);
+        Check.counts("beyond the limit", x, TEXT_LIMIT, 3, 0, 0, 0);
+        Check.answers("read", () -> x.read(false), Check.bits(8.25));
         Check.same("written", Check.takeAll(x), "2.5");
     }
 }
