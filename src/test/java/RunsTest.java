@@ -1,6 +1,6 @@
 import java.util.Random;
 
-/** All promises at once: runs of 512 calls on one object, against a plain model of it. */
+/** All promises at once: runs of calls on one object, up to 512, against a plain model of it. */
 public final class RunsTest {
     /** The document as it stands, with Strings and exact arithmetic. */
     private static final class Model {
@@ -68,21 +68,87 @@ public final class RunsTest {
     private static final Random CHOICE = new Random(151126);
     private static final int ROUNDS = Integer.getInteger("rounds", 1);
 
-    private RealText x;
-    private Model model;
+    private final RealText x;
+    private final Model model;
     private int calls;
 
     public static void main(String[] args) {
+        everyShortRun();
+        fullTextsInOneRun();
         for (int i = 0; i < 60 * ROUNDS; i++) {
             new RunsTest().run();
         }
         Check.end();
     }
 
-    private void run() {
+    private RunsTest() {
         x = new RealText();
         model = new Model();
-        calls = 0;
+    }
+
+    /** All runs of four calls out of twelve: what any call leaves to any other behind it. */
+    private static void everyShortRun() {
+        for (int choices = 0; choices < 12 * 12 * 12 * 12; choices++) {
+            RunsTest run = new RunsTest();
+            for (int left = choices, i = 0; i < 4; i++, left /= 12) {
+                run.callOf(left % 12);
+            }
+            run.tellAll();
+        }
+    }
+
+    /** As many full texts as 512 calls can bring: none leaves anything to the next. */
+    private static void fullTextsInOneRun() {
+        String middle = Exact.middleAbove(4503599627370495L, false).toPlainString();
+        String below = middle.substring(0, middle.length() - 1);
+        String[] all = {filled("", "9", "e-890"), filled(middle, "0", ""), filled(middle, "0", "1"),
+            filled(below + "4", "9", ""), filled("0x1", "0", "1p-4764"), filled("1", "_", "1"),
+            filled("0x.", "0", "1p-9999"), filled("0.", "0", ""), filled(".", "9", "x")};
+        for (int i = 0; i < all.length; i++) {
+            RunsTest run = new RunsTest();
+            for (int j = 0; j < 3; j++) {
+                run.putText(all[(i + j) % all.length]);
+                run.read(j == 1);
+            }
+            run.tellAll();
+        }
+    }
+
+    private static String filled(String start, String middle, String end) {
+        return start + middle.repeat(Model.TEXT_LIMIT - start.length() - end.length()) + end;
+    }
+
+    private void callOf(int which) {
+        switch (which) {
+            case 0 -> putText("12");
+            case 1 -> putText("e-4_5");
+            case 2 -> putText("12.e39");
+            case 3 -> text(0);
+            case 4 -> text(0x3131000031313180L);
+            case 5 -> read(true);
+            case 6 -> read(false);
+            case 7 -> write(0x8010000000000000L, false);
+            case 8 -> write(0x3FC00000L, true);
+            case 9 -> write(0x7FF0000000000000L, false);
+            case 10 -> take();
+            default -> back();
+        }
+    }
+
+    private void tellAll() {
+        for (int what = -1; what <= 5; what++) {
+            count(what);
+        }
+        take();
+        read(false);
+        back();
+        read(true);
+        for (int what = 0; what <= 4; what++) {
+            count(what);
+        }
+    }
+
+    private void run() {
         boolean isLong = CHOICE.nextInt(4) == 0;
         while (calls < CALLS) {
             step(isLong);
@@ -101,17 +167,20 @@ public final class RunsTest {
                 break;
             case 4:
             case 5:
-                read();
+                read(CHOICE.nextBoolean());
                 break;
             case 6:
             case 7:
-                write();
+                write(someBits(), CHOICE.nextBoolean());
+                if (CHOICE.nextBoolean()) {
+                    back();
+                }
                 break;
             case 8:
-                compare("take()", () -> x.take(), () -> model.take());
+                take();
                 break;
             default:
-                tell();
+                count(CHOICE.nextInt(8) == 0 ? CHOICE.nextInt() : CHOICE.nextInt(7) - 1);
         }
     }
 
@@ -130,24 +199,25 @@ public final class RunsTest {
         compare("text(" + w + ")", () -> x.text(w), () -> model.text(w));
     }
 
-    private void read() {
-        boolean single = CHOICE.nextBoolean();
+    private void read(boolean single) {
         compare("read(" + single + ") of " + model.theText, () -> x.read(single),
                 () -> model.read(single));
     }
 
-    private void write() {
-        boolean single = CHOICE.nextBoolean();
-        long bits = someBits();
+    private void write(long bits, boolean single) {
         compare("write(" + bits + ", " + single + ")", () -> x.write(bits, single),
                 () -> model.write(bits, single));
-        if (CHOICE.nextBoolean()) {
-            compare("back()", () -> x.back(), () -> model.back());
-        }
     }
 
-    private void tell() {
-        int what = CHOICE.nextInt(8) == 0 ? CHOICE.nextInt() : CHOICE.nextInt(7) - 1;
+    private void take() {
+        compare("take()", () -> x.take(), () -> model.take());
+    }
+
+    private void back() {
+        compare("back()", () -> x.back(), () -> model.back());
+    }
+
+    private void count(int what) {
         compare("count(" + what + ")", () -> x.count(what), () -> model.count(what));
     }
 

@@ -11,6 +11,7 @@ public final class WriteExactlyTest {
         beside(true, 254, 23);
         besideTens();
         leastOnes();
+        everyOneThatTwoDigitsTell();
         ties();
         for (int i = 0; i < 6000 * ROUNDS; i++) {
             check((CHOICE.nextLong() >>> 1) % Exact.infinity(false), false);
@@ -47,6 +48,20 @@ public final class WriteExactlyTest {
         for (long bits = 1; bits <= 2000; bits++) {
             check(bits, false);
             check(bits, true);
+        }
+    }
+
+    /**
+     * One digit counts as two: of all numbers that so few tell none is left out, wherever the even
+     * one of two digits might decide.
+     */
+    private static void everyOneThatTwoDigitsTell() {
+        for (int power = -325; power <= 308; power++) {
+            for (int digits = 10; digits <= 99; digits++) {
+                String decimal = digits + "e" + power;
+                check(Check.bits(Double.parseDouble(decimal)), false);
+                check(Check.bits(Float.parseFloat(decimal)), true);
+            }
         }
     }
 
